@@ -1,5 +1,6 @@
 import java.util.ArrayDeque;
 import java.util.ArrayList;
+import java.util.Arrays;
 import java.util.Deque;
 import java.util.HashSet;
 import java.util.List;
@@ -107,12 +108,37 @@ public final class TornPagesAgainstModel {
             for (int p = pieces.length - 1; p >= 0; p--) {
                 int orientation = pieces[p].bothSides ? below(8) : below(4);
                 Piece told = pieces[p].shown(orientation);
-                if (once(12)) {
-                    told.lines[below(4)] = 0;
+                if (once(style == 3 ? 3 : 12)) {
+                    told.lines[below(4)] = once(2) ? 0 : below(10);
                 }
                 write(told.text());
                 same("add()", real.add(), model.add());
             }
+            if (style == 3 && once(3)) {
+                putTogether(pieces);
+            }
+        }
+
+        /** Lays the scraps where they were torn from, whether they were spoiled or not. */
+        void putTogether(Piece[] pieces) {
+            for (int s = 0; s < pieces.length; s++) {
+                int place = pieces.length - 1 - s;
+                Piece told = model.pieces.get(s);
+                int orientation = 0;
+                while (orientation < 7
+                        && !Arrays.equals(told.shown(orientation).steps, pieces[place].steps)) {
+                    orientation++;
+                }
+                int o = orientation;
+                same("force(" + s + ", " + place + ", " + o + ")",
+                        real.force(s, place, o), model.force(s, place, o));
+            }
+            for (int place = 0; place < pieces.length; place++) {
+                int edge = below(4);
+                same("reason(" + place + ", " + edge + ")",
+                        real.reason(place, edge), model.reason(place, edge));
+            }
+            askAll();
         }
 
         void tear(Piece one, int edge, Piece other, int otherEdge) {
