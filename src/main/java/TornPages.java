@@ -363,7 +363,7 @@ public final class TornPages {
         }
         for (int scrap = 0; scrap < desk.scraps.size(); scrap++) {
             for (int orientation = 0; orientation < ORIENTATIONS; orientation++) {
-                if (desk.isWorthTrying(scrap, place, orientation)) {
+                if (!desk.page.lies(scrap) && desk.canLie(scrap, place, orientation)) {
                     desk.page.put(scrap, place, orientation);
                     if (fillsFrom(desk, place + 1)) {
                         return true;
@@ -481,7 +481,6 @@ public final class TornPages {
         private final Row kinds = new Row(MOST_SCRAPS);
         private final Row profiles = new Row(MOST_SCRAPS * SHOWN_EDGES);
         private final Row lines = new Row(MOST_SCRAPS * SHOWN_EDGES);
-        private final Row repeats = new Row(MOST_SCRAPS * ORIENTATIONS);
         private int size;
 
         int size() {
@@ -500,11 +499,6 @@ public final class TornPages {
             return lines.get(scrap * SHOWN_EDGES + orientation * EDGES + edge);
         }
 
-        /** Tells whether a lower orientation of the scrap shows the same edges. */
-        boolean isRepeat(int scrap, int orientation) {
-            return repeats.get(scrap * ORIENTATIONS + orientation) == 1;
-        }
-
         void append(Draft draft) {
             if (size >= MOST_SCRAPS) {
                 return;
@@ -516,8 +510,6 @@ public final class TornPages {
                     profiles.set(index, draft.profile(orientation, edge));
                     lines.set(index, draft.line(orientation, edge));
                 }
-                boolean repeat = looksLikeLowerOne(size, orientation);
-                repeats.set(size * ORIENTATIONS + orientation, repeat ? 1 : 0);
             }
             size++;
         }
@@ -529,7 +521,6 @@ public final class TornPages {
             kinds.cut(scrap, 1);
             profiles.cut(scrap * SHOWN_EDGES, SHOWN_EDGES);
             lines.cut(scrap * SHOWN_EDGES, SHOWN_EDGES);
-            repeats.cut(scrap * ORIENTATIONS, ORIENTATIONS);
             size--;
         }
 
@@ -537,27 +528,7 @@ public final class TornPages {
             kinds.copy(other.kinds);
             profiles.copy(other.profiles);
             lines.copy(other.lines);
-            repeats.copy(other.repeats);
             size = other.size;
-        }
-
-        private boolean looksLikeLowerOne(int scrap, int orientation) {
-            for (int lower = 0; lower < orientation; lower++) {
-                if (looksAlike(scrap, lower, orientation)) {
-                    return true;
-                }
-            }
-            return false;
-        }
-
-        private boolean looksAlike(int scrap, int one, int other) {
-            for (int edge = 0; edge < EDGES; edge++) {
-                if (profile(scrap, one, edge) != profile(scrap, other, edge)
-                        || line(scrap, one, edge) != line(scrap, other, edge)) {
-                    return false;
-                }
-            }
-            return true;
         }
     }
 
@@ -719,11 +690,6 @@ public final class TornPages {
                 }
             }
             return true;
-        }
-
-        boolean isWorthTrying(int scrap, int place, int orientation) {
-            return !page.lies(scrap) && !scraps.isRepeat(scrap, orientation)
-                    && canLie(scrap, place, orientation);
         }
 
         int countWays(int scrap, int place) {

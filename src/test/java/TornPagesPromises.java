@@ -131,6 +131,7 @@ public final class TornPagesPromises {
         }
         dueCounts(x, 4, 4, 2, 2);
         x.lift(3);
+        x.turn(0, 7);
         x.type('1');
         due("reset(6, 1)", x.reset(6, 1), 3);
         dueCounts(x, 4, 0, 6, 1, 0, 0, 0, 0, 0, 6, 5, 1);
@@ -141,6 +142,10 @@ public final class TornPagesPromises {
         due("reset(6, 6)", x.reset(6, 6), 0);
         due("at(35)", x.at(35), NOT_FOUND);
         due("at(36)", x.at(36), INVALID);
+        x.force(2, 35, 1);
+        due("at(35) with a scrap", x.at(35), 2);
+        x.reset(6, 6);
+        due("at(35) after a reset", x.at(35), NOT_FOUND);
         due("reset(1, 1)", x.reset(1, 1), 0);
         due("at(1)", x.at(1), INVALID);
     }
@@ -162,6 +167,7 @@ public final class TornPagesPromises {
         due("left too high", x.addScrap(0, 0, 0, 1000, 0), INVALID);
         due("kind too low", x.addScrap(0, 0, 0, 0, -1), INVALID);
         due("kind too high", x.addScrap(0, 0, 0, 0, 2), INVALID);
+        due("all out", x.addScrap(1000, -2, 1000, -2, 2), INVALID);
         due("far out", x.addScrap(Integer.MIN_VALUE, 0, 0, 0, 0), INVALID);
         dueCounts(x, 1, 0);
         for (int scrap = 1; scrap < 12; scrap++) {
@@ -236,6 +242,13 @@ public final class TornPagesPromises {
         due("kept orientation", full.scrap(10, 1), 7);
         due("renumbered", full.at(5), 10);
         dueEdges(full, 10, 0, 0, 11, 11, 11, 11);
+        addText(full, "-/0,123/1,-/0,-/0;1");
+        addText(full, "-/0,123/2,-/0,-/0;0");
+        full.removeScrap(9);
+        full.removeScrap(9);
+        dueEdges(full, 9, 0, 1, 0, 1, 0, 0);
+        due("its kind", full.scrap(9, 0), 1);
+        full.addScrap(0, 0, 0, 0, 0);
         due("room for one", full.addScrap(0, 0, 0, 0, 0), 11);
         due("the new one's place", full.scrap(11, 2), NOT_FOUND);
         due("the new one's orientation", full.scrap(11, 1), 0);
@@ -335,6 +348,13 @@ public final class TornPagesPromises {
         x.addScrap(1, 1, 1, 1, 1);
         due("undo of one", x.undo(), 0);
         due("scraps", x.count(0), 4);
+        x.addScrap(1, 1, 1, 1, 1);
+        x.removeScrap(4);
+        x.addScrap(2, 2, 2, 2, 0);
+        x.undo();
+        due("undo of removeScrap", x.undo(), 1);
+        due("its kind", x.scrap(4, 0), 1);
+        dueEdges(x, 4, 0, 0, 1, 1, 1, 1);
     }
 
     private static void undoOfEachChange() {
@@ -737,6 +757,23 @@ public final class TornPagesPromises {
         addText(x, "-/0,-/0,-/0,567/6;1");
         x.reset(6, 1);
         due("a wrong line", x.canFill(), 0);
+        TornPages back = new TornPages();
+        addText(back, "-/0,444/1,-/0,-/0;0");
+        addText(back, "-/0,-/0,-/0,555/0;0");
+        back.reset(2, 1);
+        due("only with a back", back.canFill(), 1);
+        TornPages other = new TornPages();
+        other.addScrap(-1, 123, -1, -1, 0);
+        other.addScrap(-1, 321, -1, -1, 0);
+        other.addScrap(-1, 567, -1, 678, 0);
+        other.reset(3, 1);
+        due("the first must not be in the middle", other.canFill(), 0);
+        other.removeScrap(1);
+        other.addScrap(-1, -1, -1, 432, 0);
+        due("now they join", other.canFill(), 1);
+        other.removeScrap(0);
+        other.addScrap(-1, 123, -1, -1, 0);
+        due("whatever comes first", other.canFill(), 1);
         TornPages y = new TornPages();
         y.addScrap(-1, 444, 444, -1, 0);
         y.addScrap(-1, 444, 444, 555, 0);
