@@ -102,13 +102,24 @@ public final class TornPages {
         if (!isScrap(scrap) || !isWithin(what, 0, 5)) {
             return INVALID_ARGUMENT;
         }
-        if (what == 0) {
-            return desk.scraps.kind(scrap);
+        if (what > 1 && !desk.page.lies(scrap)) {
+            return NOT_FOUND;
         }
-        if (what == 1) {
-            return desk.page.orientationOf(scrap);
+        switch (what) {
+            case 0:
+                return desk.scraps.kind(scrap);
+            case 1:
+                return desk.page.orientationOf(scrap);
+            case 2:
+                return desk.page.placeOf(scrap);
+            case 3:
+                groups.gather(desk);
+                return groups.groupOf(scrap);
+            case 4:
+                return desk.countFits(scrap);
+            default:
+                return desk.countFaults(scrap);
         }
-        return desk.page.lies(scrap) ? propertyOnPage(scrap, what) : NOT_FOUND;
     }
 
     public int edge(int scrap, int orientation, int edge, int what) {
@@ -312,20 +323,6 @@ public final class TornPages {
         history.keep(desk);
         desk.scraps.append(added);
         return desk.scraps.size() - 1;
-    }
-
-    private int propertyOnPage(int scrap, int what) {
-        switch (what) {
-            case 2:
-                return desk.page.placeOf(scrap);
-            case 3:
-                groups.gather(desk);
-                return groups.groupOf(scrap);
-            case 4:
-                return desk.countFits(scrap);
-            default:
-                return desk.countFaults(scrap);
-        }
     }
 
     private boolean isFree(int scrap, int place) {
@@ -662,11 +659,12 @@ public final class TornPages {
         /** The reason of an edge of a scrap at a place, were it there; NONE if nothing lies behind it. */
         int verdict(int scrap, int place, int orientation, int edge) {
             int profile = scraps.profile(scrap, orientation, edge);
-            if (page.behind(place, edge) == NONE) {
+            int behind = page.behind(place, edge);
+            if (behind == NONE) {
                 return profile == STRAIGHT ? FITS : BORDER_NOT_STRAIGHT;
             }
-            int other = neighbour(scrap, place, edge);
-            if (other == NONE) {
+            int other = page.scrapAt(behind);
+            if (other == NONE || other == scrap) {
                 return NONE;
             }
             int otherOrientation = page.orientationOf(other);
@@ -744,7 +742,9 @@ public final class TornPages {
         }
 
         boolean isJoined(int scrap, int edge) {
-            return neighbourOnPage(scrap, edge) != NONE && verdictOnPage(scrap, edge) == FITS;
+            int place = page.placeOf(scrap);
+            return place != NONE && page.behind(place, edge) != NONE
+                    && verdict(scrap, place, page.orientationOf(scrap), edge) == FITS;
         }
 
         // Each seam is the right or the bottom edge of just one scrap.

@@ -71,7 +71,8 @@ public final class TornPagesAgainstModel {
         void same(String call, int got, int want) {
             calls++;
             latest.append(call).append(" -> ").append(got).append('\n');
-            if (got != want && fault == null) {
+            // What is answered after the last call is free.
+            if (got != want && fault == null && calls <= CALLS) {
                 fault = call + " answered " + got + ", the model " + want + "\n" + latest;
             }
         }
