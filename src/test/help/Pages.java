@@ -95,6 +95,17 @@ final class Pages {
         return four(x, scrap, orientation, 0) + " / " + four(x, scrap, orientation, 1);
     }
 
+    /** The text of a scrap that looks so at once as another does in an orientation. */
+    static String textOf(TornPages x, int scrap, int orientation, int kind) {
+        StringBuilder text = new StringBuilder();
+        for (int edge = 0; edge < 4; edge++) {
+            int profile = x.edge(scrap, orientation, edge, 0);
+            text.append(edge > 0 ? "," : "").append(profile < 0 ? "-" : String.format("%03d", profile));
+            text.append('/').append(x.edge(scrap, orientation, edge, 1));
+        }
+        return text.append(';').append(kind).toString();
+    }
+
     static String profiles(TornPages x, int scrap, int orientation) {
         return four(x, scrap, orientation, 0);
     }

@@ -47,10 +47,7 @@ public final class TornPagesFace {
     private static void methods() {
         Set<String> due = new TreeSet<>(Set.of(CALLS));
         Set<String> found = new TreeSet<>();
-        Set<String> names = new TreeSet<>();
-        for (String call : CALLS) {
-            names.add(call.split(" ")[0]);
-        }
+        Set<String> names = names();
         for (Method method : TornPages.class.getDeclaredMethods()) {
             int modifiers = method.getModifiers();
             if (Modifier.isPrivate(modifiers)) {
@@ -65,6 +62,14 @@ public final class TornPagesFace {
             found.add(method.getName() + " " + method.getParameterCount());
         }
         check(found.equals(due), "the methods are " + due + ", not " + found);
+    }
+
+    private static Set<String> names() {
+        Set<String> names = new TreeSet<>();
+        for (String call : CALLS) {
+            names.add(call.split(" ")[0]);
+        }
+        return names;
     }
 
     private static void constantsAndConstructor() {
@@ -92,6 +97,10 @@ public final class TornPagesFace {
             check(Modifier.isStatic(type.getModifiers()), type + " is static");
             check(!Modifier.isPublic(type.getModifiers()), type + " is not public");
             check(type.getDeclaredClasses().length == 0, type + " has no classes inside");
+            for (Method method : type.getDeclaredMethods()) {
+                check(!Modifier.isPrivate(method.getModifiers())
+                        || !names().contains(method.getName()), "no private " + method);
+            }
             for (Field field : type.getDeclaredFields()) {
                 check(!Modifier.isStatic(field.getModifiers())
                         || Modifier.isFinal(field.getModifiers()), field + " is final if static");

@@ -806,6 +806,46 @@ public final class TornPagesPageBoundaries extends Sentences {
         due("twice the same end", y.canFill(), 0);
     }
 
+    @Says(in = "Promise 20", words = "for each place one scrap")
+    static void p20OfTheScrapsThatThereAre() {
+        TornPages x = Pages.withScraps(2, 1, "-/0,123/0,-/0,-/0;0", "-/0,-/0,-/0,877/0;0",
+                "-/0,-/0,-/0,876/0;0");
+        due("three", x.canFill(), NOT_POSSIBLE);
+        x.removeScrap(2);
+        due("without the one that fits", x.canFill(), 0);
+        x.undo();
+        x.removeScrap(1);
+        due("without the one that does not", x.canFill(), 1);
+        TornPages y = Pages.alike(2, 2, 8, -1);
+        y.addScrap(-1, 555, 555, -1, 0);
+        y.addScrap(-1, 555, 555, -1, 0);
+        y.addScrap(-1, 444, -1, -1, 0);
+        y.addScrap(-1, 444, 444, -1, 0);
+        for (int scrap = 0; scrap < 8; scrap++) {
+            y.removeScrap(0);
+        }
+        due("the last one only once", y.canFill(), 0);
+        y.removeScrap(2);
+        y.addScrap(-1, 444, 444, -1, 0);
+        due("twice", y.canFill(), 1);
+    }
+
+    /** A line on a scrap of the kind 0 beside one of the kind 1: the page can not be turned over. */
+    @Says(in = "Promise 20", words = "Tells whether all scraps could fill the page together")
+    static void p20InWhateverOrientations() {
+        int[] back = {0, 3, 2, 1, 4, 5, 6, 7};
+        for (int left = 0; left < 4; left++) {
+            TornPages whole = Pages.withScraps(2, 1, "-/0,123/4,-/0,-/0;1", "-/0,-/0,-/0,876/4;1");
+            for (int right = 0; right < 8; right++) {
+                TornPages x = Pages.withScraps(2, 1, Pages.textOf(whole, 0, back[left], 0),
+                        Pages.textOf(whole, 1, back[right], 1));
+                due("in the orientations " + left + " and " + right, x.canFill(), 1);
+                due("so it is laid left", x.lay(0, 0, left), 0);
+                due("so it is laid right", x.lay(1, 1, right), 1);
+            }
+        }
+    }
+
     @Says(in = "Promise 20", words = "all seams and border edges fitting")
     static void p20SeamsAndBorderEdgesFitting() {
         String[] ends = {"-/0,-/0,-/0,876/4;1", "-/0,-/0,-/0,876/5;1", "-/0,-/0,-/0,875/4;1",

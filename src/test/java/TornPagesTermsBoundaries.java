@@ -801,6 +801,29 @@ public final class TornPagesTermsBoundaries extends Sentences {
         same("a page of another size", Pages.picture(x), before);
     }
 
+    @Says(in = "Changes and errors", words = "each change records scraps and page before it")
+    static void historyOfAllThatAScrapIs() {
+        for (int removed = 0; removed < 12; removed++) {
+            TornPages x = new TornPages();
+            for (int scrap = 0; scrap < 12; scrap++) {
+                Pages.addText(x, "-/0,00" + scrap % 10 + "/" + scrap % 10 + ",-/0,-/0;" + scrap / 3 % 2);
+                x.force(scrap, scrap + 2, (scrap + 1) % 8);
+            }
+            x.removeScrap(removed);
+            Pages.addText(x, "-/0,-/0,999/9,-/0;" + (1 - removed / 3 % 2));
+            x.undo();
+            x.undo();
+            for (int scrap = 0; scrap < 12; scrap++) {
+                due("kind of " + scrap, x.scrap(scrap, 0), scrap / 3 % 2);
+                due("orientation of " + scrap, x.scrap(scrap, 1), (scrap + 1) % 8);
+                due("place of " + scrap, x.scrap(scrap, 2), scrap + 2);
+                due("at", x.at(scrap + 2), scrap);
+                due("profile of " + scrap, x.edge(scrap, 0, 1, 0), scrap % 10);
+                due("line of " + scrap, x.edge(scrap, 0, 1, 1), scrap % 10);
+            }
+        }
+    }
+
     @Says(in = "Changes and errors", words = "INVALID_ARGUMENT is returned rather than NOT_POSSIBLE")
     static void errorsInvalidRatherThanNotPossible() {
         TornPages x = Pages.fourLaid();
