@@ -50,41 +50,10 @@ public final class TornPagesPromises {
         }
     }
 
-    private static void write(TornPages x, String text) {
-        x.clearText();
-        for (int i = 0; i < text.length(); i++) {
-            x.type(text.charAt(i));
-        }
-    }
-
-    private static int addText(TornPages x, String text) {
-        write(x, text);
-        return x.add();
-    }
-
     private static int faultOf(String text) {
         TornPages x = new TornPages();
-        write(x, text);
+        Pages.write(x, text);
         return x.fault();
-    }
-
-    /** A page of 2 by 2 torn into four scraps, 0 to 3 for the places 0 to 3, without lines. */
-    private static TornPages fourScraps() {
-        TornPages x = new TornPages();
-        x.addScrap(-1, 123, 456, -1, 0);
-        x.addScrap(-1, -1, 789, 876, 0);
-        x.addScrap(543, 234, -1, -1, 0);
-        x.addScrap(210, -1, -1, 765, 0);
-        x.reset(2, 2);
-        return x;
-    }
-
-    private static TornPages fourLaid() {
-        TornPages x = fourScraps();
-        for (int scrap = 0; scrap < 4; scrap++) {
-            x.lay(scrap, scrap, 0);
-        }
-        return x;
     }
 
     private static TornPages twelveScraps() {
@@ -125,7 +94,7 @@ public final class TornPagesPromises {
         promise = 2;
         int[][] refused = {{0, 4}, {4, 0}, {7, 4}, {4, 7}, {-1, 1}, {1, -1},
             {Integer.MAX_VALUE, 1}, {Integer.MIN_VALUE, 1}, {1, Integer.MIN_VALUE}};
-        TornPages x = fourLaid();
+        TornPages x = Pages.fourLaid();
         for (int[] size : refused) {
             due("reset(" + size[0] + ", " + size[1] + ")", x.reset(size[0], size[1]), INVALID);
         }
@@ -182,24 +151,24 @@ public final class TornPagesPromises {
         promise = 4;
         TornPages x = new TornPages();
         due("an empty text", x.add(), NOT_POSSIBLE);
-        write(x, "012/3,-/0,345/0,999/1;1");
+        Pages.write(x, "012/3,-/0,345/0,999/1;1");
         due("a scrap", x.add(), 0);
         due("the text stays", x.count(11), 23);
         dueEdges(x, 0, 0, 0, 12, -1, 345, 999);
         dueEdges(x, 0, 0, 1, 3, 0, 0, 1);
         due("kind", x.scrap(0, 0), 1);
         due("it again", x.add(), 1);
-        due("another", addText(x, "-/0,-/0,-/0,-/0;0"), 2);
+        due("another", Pages.addText(x, "-/0,-/0,-/0,-/0;0"), 2);
         dueEdges(x, 2, 0, 0, -1, -1, -1, -1);
         dueEdges(x, 2, 0, 1, 0, 0, 0, 0);
         due("kind", x.scrap(2, 0), 0);
         x.type('0');
         due("a text that goes on", x.add(), NOT_POSSIBLE);
-        due("a text that ends early", addText(x, "-/0,-/0,-/0,-/0;"), NOT_POSSIBLE);
-        due("a wrong kind", addText(x, "-/0,-/0,-/0,-/0;2"), NOT_POSSIBLE);
+        due("a text that ends early", Pages.addText(x, "-/0,-/0,-/0,-/0;"), NOT_POSSIBLE);
+        due("a wrong kind", Pages.addText(x, "-/0,-/0,-/0,-/0;2"), NOT_POSSIBLE);
         dueCounts(x, 3, 0, 4, 4, 0, 0, 0, 0, 0, 16, 3);
         for (int scrap = 3; scrap < 12; scrap++) {
-            due("scrap " + scrap, addText(x, "001/9,-/0,-/0,-/0;0"), scrap);
+            due("scrap " + scrap, Pages.addText(x, "001/9,-/0,-/0,-/0;0"), scrap);
         }
         due("a 13th", x.add(), LIMIT);
         x.type(' ');
@@ -209,7 +178,7 @@ public final class TornPagesPromises {
 
     private static void removeScrap() {
         promise = 5;
-        TornPages x = fourLaid();
+        TornPages x = Pages.fourLaid();
         due("removeScrap(-1)", x.removeScrap(-1), INVALID);
         due("removeScrap(4)", x.removeScrap(4), INVALID);
         due("removeScrap(MIN)", x.removeScrap(Integer.MIN_VALUE), INVALID);
@@ -242,8 +211,8 @@ public final class TornPagesPromises {
         due("kept orientation", full.scrap(10, 1), 7);
         due("renumbered", full.at(5), 10);
         dueEdges(full, 10, 0, 0, 11, 11, 11, 11);
-        addText(full, "-/0,123/1,-/0,-/0;1");
-        addText(full, "-/0,123/2,-/0,-/0;0");
+        Pages.addText(full, "-/0,123/1,-/0,-/0;1");
+        Pages.addText(full, "-/0,123/2,-/0,-/0;0");
         full.removeScrap(9);
         full.removeScrap(9);
         dueEdges(full, 9, 0, 1, 0, 1, 0, 0);
@@ -256,7 +225,7 @@ public final class TornPagesPromises {
 
     private static void scrap() {
         promise = 6;
-        TornPages x = fourLaid();
+        TornPages x = Pages.fourLaid();
         for (int scrap = 0; scrap < 4; scrap++) {
             int[] wants = {0, 0, scrap, 0, 4, 0};
             for (int what = 0; what < 6; what++) {
@@ -313,8 +282,8 @@ public final class TornPagesPromises {
 
     private static void edgeOfBothKinds() {
         TornPages x = new TornPages();
-        addText(x, "012/1,345/2,-/0,678/4;0");
-        addText(x, "012/1,345/2,-/0,678/4;1");
+        Pages.addText(x, "012/1,345/2,-/0,678/4;0");
+        Pages.addText(x, "012/1,345/2,-/0,678/4;1");
         for (int scrap = 0; scrap < 2; scrap++) {
             dueEdges(x, scrap, 0, 1, 1, 2, 0, 4);
             dueEdges(x, scrap, 1, 1, 4, 1, 2, 0);
@@ -332,7 +301,7 @@ public final class TornPagesPromises {
 
     private static void undo() {
         promise = 8;
-        TornPages x = fourScraps();
+        TornPages x = Pages.fourScraps();
         for (int scrap = 0; scrap < 4; scrap++) {
             x.lay(scrap, scrap, 0);
         }
@@ -358,7 +327,7 @@ public final class TornPagesPromises {
     }
 
     private static void undoOfEachChange() {
-        TornPages x = fourLaid();
+        TornPages x = Pages.fourLaid();
         x.turn(3, 5);
         x.removeScrap(0);
         x.lift(1);
@@ -385,7 +354,7 @@ public final class TornPagesPromises {
         due("nothing lies", y.count(1), 0);
         due("undo of reset", y.undo(), 1);
         dueCounts(y, 1, 0, 4, 4);
-        addText(y, "-/0,-/0,-/0,-/0;1");
+        Pages.addText(y, "-/0,-/0,-/0,-/0;1");
         due("undo of add", y.undo(), 1);
         due("scraps", y.count(0), 1);
         due("the text stays", y.count(11), 17);
@@ -393,7 +362,7 @@ public final class TornPagesPromises {
 
     private static void count() {
         promise = 9;
-        TornPages x = fourLaid();
+        TornPages x = Pages.fourLaid();
         dueCounts(x, 4, 4, 2, 2, 1, 4, 4, 8, 0, 0, 5, 0);
         x.turn(3, 2);
         dueCounts(x, 4, 4, 2, 2, 2, 4, 2, 6, 2, 0, 5, 0);
@@ -420,7 +389,7 @@ public final class TornPagesPromises {
 
     private static void lay() {
         promise = 10;
-        TornPages x = fourScraps();
+        TornPages x = Pages.fourScraps();
         due("lay(0, 0, 0)", x.lay(0, 0, 0), 0);
         due("a place with a scrap", x.lay(1, 0, 0), NOT_POSSIBLE);
         due("one that lies", x.lay(0, 1, 0), NOT_POSSIBLE);
@@ -439,9 +408,9 @@ public final class TornPagesPromises {
         due("lay(2, 2, 0)", x.lay(2, 2, 0), 2);
         due("at(2)", x.at(2), 2);
         TornPages y = new TornPages();
-        addText(y, "-/0,123/4,-/0,-/0;0");
-        addText(y, "-/0,-/0,-/0,876/4;0");
-        addText(y, "-/0,-/0,-/0,876/5;0");
+        Pages.addText(y, "-/0,123/4,-/0,-/0;0");
+        Pages.addText(y, "-/0,-/0,-/0,876/4;0");
+        Pages.addText(y, "-/0,-/0,-/0,876/5;0");
         y.reset(2, 1);
         due("turned around", y.lay(0, 1, 2), 0);
         due("its partner, not turned", y.lay(1, 0, 0), NOT_POSSIBLE);
@@ -453,7 +422,7 @@ public final class TornPagesPromises {
 
     private static void force() {
         promise = 11;
-        TornPages x = fourScraps();
+        TornPages x = Pages.fourScraps();
         due("one that fits", x.force(0, 0, 0), 0);
         due("one that lies", x.force(0, 1, 0), NOT_POSSIBLE);
         due("a place with a scrap", x.force(1, 0, 0), NOT_POSSIBLE);
@@ -474,7 +443,7 @@ public final class TornPagesPromises {
 
     private static void lift() {
         promise = 12;
-        TornPages x = fourLaid();
+        TornPages x = Pages.fourLaid();
         due("lift(4)", x.lift(4), INVALID);
         due("lift(-1)", x.lift(-1), INVALID);
         due("lift(2)", x.lift(2), 2);
@@ -490,7 +459,7 @@ public final class TornPagesPromises {
 
     private static void turn() {
         promise = 13;
-        TornPages x = fourLaid();
+        TornPages x = Pages.fourLaid();
         due("to a fault", x.turn(0, 1), 3);
         due("orientation", x.scrap(0, 1), 1);
         due("its place", x.scrap(0, 2), 0);
@@ -515,7 +484,7 @@ public final class TornPagesPromises {
 
     private static void at() {
         promise = 14;
-        TornPages x = fourScraps();
+        TornPages x = Pages.fourScraps();
         x.reset(3, 2);
         x.force(2, 4, 1);
         due("at(4)", x.at(4), 2);
@@ -530,11 +499,11 @@ public final class TornPagesPromises {
     private static void reason() {
         promise = 15;
         TornPages x = new TornPages();
-        addText(x, "-/0,123/4,456/5,-/0;0");
-        addText(x, "-/0,-/0,-/0,876/4;0");
-        addText(x, "-/0,-/0,-/0,876/5;0");
-        addText(x, "-/0,-/0,-/0,875/4;0");
-        addText(x, "543/1,321/0,-/0,-/0;0");
+        Pages.addText(x, "-/0,123/4,456/5,-/0;0");
+        Pages.addText(x, "-/0,-/0,-/0,876/4;0");
+        Pages.addText(x, "-/0,-/0,-/0,876/5;0");
+        Pages.addText(x, "-/0,-/0,-/0,875/4;0");
+        Pages.addText(x, "543/1,321/0,-/0,-/0;0");
         x.reset(2, 2);
         x.force(0, 0, 0);
         due("nothing right of it", x.reason(0, 1), NOT_FOUND);
@@ -575,9 +544,9 @@ public final class TornPagesPromises {
         x.addScrap(-1, -1, -1, -1, 0);
         x.addScrap(0, 0, 0, 0, 0);
         x.addScrap(-1, 123, -1, -1, 0);
-        addText(x, "-/0,-/0,-/0,678/1;0");
-        addText(x, "-/0,-/0,-/0,678/0;1");
-        addText(x, "-/0,-/0,-/0,876/1;1");
+        Pages.addText(x, "-/0,-/0,-/0,678/1;0");
+        Pages.addText(x, "-/0,-/0,-/0,678/0;1");
+        Pages.addText(x, "-/0,-/0,-/0,876/1;1");
         x.reset(3, 3);
         due("the middle", x.ways(1, 4), 8);
         due("all straight in a corner", x.ways(0, 0), 8);
@@ -600,7 +569,7 @@ public final class TornPagesPromises {
 
     private static void bestFor() {
         promise = 17;
-        TornPages x = fourScraps();
+        TornPages x = Pages.fourScraps();
         due("an empty page", x.bestFor(0), 0);
         due("orientation 1 is the lowest", x.bestFor(2), 1);
         x.lay(0, 3, 2);
@@ -621,7 +590,7 @@ public final class TornPagesPromises {
 
     private static void fill() {
         promise = 18;
-        TornPages x = fourScraps();
+        TornPages x = Pages.fourScraps();
         due("fill", x.fill(), 4);
         dueCounts(x, 4, 4, 2, 2, 1, 4, 4, 8, 0, 0, 5);
         for (int scrap = 0; scrap < 4; scrap++) {
@@ -656,7 +625,7 @@ public final class TornPagesPromises {
 
     private static void member() {
         promise = 19;
-        TornPages x = fourLaid();
+        TornPages x = Pages.fourLaid();
         for (int index = 0; index < 4; index++) {
             due("member(0, " + index + ")", x.member(0, index), index);
         }
@@ -697,7 +666,7 @@ public final class TornPagesPromises {
 
     private static void canFill() {
         promise = 20;
-        TornPages x = fourScraps();
+        TornPages x = Pages.fourScraps();
         due("four", x.canFill(), 1);
         x.force(3, 0, 5);
         x.force(0, 3, 1);
@@ -741,12 +710,12 @@ public final class TornPagesPromises {
 
     private static void canFillOnLongPages() {
         TornPages x = new TornPages();
-        addText(x, "-/0,-/0,-/0,567/5;1");
-        addText(x, "-/0,234/2,-/0,876/1;1");
-        addText(x, "-/0,345/3,-/0,765/2;1");
-        addText(x, "-/0,123/1,-/0,-/0;1");
-        addText(x, "-/0,432/5,-/0,456/4;1");
-        addText(x, "-/0,543/4,-/0,654/3;1");
+        Pages.addText(x, "-/0,-/0,-/0,567/5;1");
+        Pages.addText(x, "-/0,234/2,-/0,876/1;1");
+        Pages.addText(x, "-/0,345/3,-/0,765/2;1");
+        Pages.addText(x, "-/0,123/1,-/0,-/0;1");
+        Pages.addText(x, "-/0,432/5,-/0,456/4;1");
+        Pages.addText(x, "-/0,543/4,-/0,654/3;1");
         x.reset(6, 1);
         due("six in a row", x.canFill(), 1);
         x.reset(1, 6);
@@ -754,12 +723,12 @@ public final class TornPagesPromises {
         x.reset(3, 2);
         due("three by two", x.canFill(), 0);
         x.removeScrap(0);
-        addText(x, "-/0,-/0,-/0,567/6;1");
+        Pages.addText(x, "-/0,-/0,-/0,567/6;1");
         x.reset(6, 1);
         due("a wrong line", x.canFill(), 0);
         TornPages back = new TornPages();
-        addText(back, "-/0,444/1,-/0,-/0;0");
-        addText(back, "-/0,-/0,-/0,555/0;0");
+        Pages.addText(back, "-/0,444/1,-/0,-/0;0");
+        Pages.addText(back, "-/0,-/0,-/0,555/0;0");
         back.reset(2, 1);
         due("only with a back", back.canFill(), 1);
         TornPages other = new TornPages();
@@ -859,7 +828,7 @@ public final class TornPagesPromises {
 
     private static void errorsChangeNothing() {
         promise = 0;
-        TornPages x = fourLaid();
+        TornPages x = Pages.fourLaid();
         x.type('-');
         x.reset(7, 1);
         x.addScrap(-2, 0, 0, 0, 0);
